@@ -27,6 +27,8 @@ public final class GroundPlan {
   private static final int MOST_SEARCHES = 60;
   private static final int SEARCHED_OUT = -2;
   private static final int MOST_COUNTED = 10;
+  /** More than any place or ground. */
+  private static final int BOUNDLESS = 0x7FFFFFFF;
 
   private static final long[] FACTORIALS = {
     1L, 1L, 2L, 6L, 24L, 120L, 720L, 5040L, 40320L, 362880L, 3628800L, 39916800L, 479001600L
@@ -137,7 +139,7 @@ public final class GroundPlan {
       return false;
     }
     orders.read(one, two, size);
-    layPair(turned);
+    layOut(orders, PAIR, turned);
     return true;
   }
 
@@ -146,7 +148,7 @@ public final class GroundPlan {
       return false;
     }
     row.read(a, b, blocks.size);
-    layCuts(turned);
+    layOut(row, CUTS, turned);
     return true;
   }
 
@@ -155,7 +157,7 @@ public final class GroundPlan {
       return false;
     }
     kin.read(root, left, right, blocks.size);
-    layTree(turned);
+    layOut(kin, TREE, turned);
     return true;
   }
 
@@ -257,7 +259,7 @@ public final class GroundPlan {
       return false;
     }
     orders.readPlaces(ground);
-    layPair(ground.turned);
+    layOut(orders, PAIR, ground.turned);
     return true;
   }
 
@@ -292,7 +294,7 @@ public final class GroundPlan {
   public int best(int i) throws NoSuchElementException {
     drawWith(i);
     int turned = outline.leastTurns(row, blocks, outline.wide[i], outline.high[i]);
-    layCuts(turned);
+    layOut(row, CUTS, turned);
     return turned;
   }
 
@@ -304,7 +306,7 @@ public final class GroundPlan {
       return false;
     }
     orders.exchangeIn(order, i, j);
-    layPair(ground.turned);
+    layOut(orders, PAIR, ground.turned);
     return true;
   }
 
@@ -345,7 +347,7 @@ public final class GroundPlan {
       return false;
     }
     orders.readNumber(rank, blocks.size);
-    layPair(0);
+    layOut(orders, PAIR, 0);
     return true;
   }
 
@@ -386,22 +388,10 @@ public final class GroundPlan {
     search.forget();
   }
 
-  private void layPair(int turned) {
+  private void layOut(Telling telling, int newKind, int turned) {
     ground.take(blocks, turned);
-    orders.lay(ground);
-    kind = PAIR;
-  }
-
-  private void layCuts(int turned) {
-    ground.take(blocks, turned);
-    row.lay(ground);
-    kind = CUTS;
-  }
-
-  private void layTree(int turned) {
-    ground.take(blocks, turned);
-    kin.lay(ground);
-    kind = TREE;
+    telling.lay(ground);
+    kind = newKind;
   }
 
   private void layFound(int wanted, Found found) {
@@ -549,8 +539,15 @@ public final class GroundPlan {
       return reach(y, height);
     }
 
+    /** Both ways at once: the search asks for it most. */
     int area() {
-      return wide() * high();
+      int wide = 0;
+      int high = 0;
+      for (int b = 0; b < size; b++) {
+        wide = Math.max(wide, x[b] + width[b]);
+        high = Math.max(high, y[b] + height[b]);
+      }
+      return wide * high;
     }
 
     private int reach(int[] place, int[] length) {
@@ -599,7 +596,7 @@ public final class GroundPlan {
     }
 
     private int span(int bits, int[] place, int[] length) {
-      int lowest = Integer.MAX_VALUE;
+      int lowest = BOUNDLESS;
       int highest = 0;
       for (int b = 0; b < size; b++) {
         if (bitOf(bits, b) == 1) {
@@ -665,8 +662,13 @@ public final class GroundPlan {
     }
   }
 
+  /** A way of telling where blocks lie. */
+  private abstract static class Telling {
+    abstract void lay(Ground ground);
+  }
+
   /** A pair: the two orders of all blocks. */
-  private static final class Orders {
+  private static final class Orders extends Telling {
     final int[] one = new int[MOST_BLOCKS];
     final int[] two = new int[MOST_BLOCKS];
     private final int[] placeInOne = new int[MOST_BLOCKS];
@@ -869,7 +871,7 @@ public final class GroundPlan {
   }
 
   /** Cuts: the row of tokens. */
-  private static final class Row {
+  private static final class Row extends Telling {
     final int[] tokens = new int[MOST_TOKENS];
     private final int[] before = new int[MOST_TOKENS];
     private final int[] members = new int[MOST_BLOCKS];
@@ -1003,7 +1005,7 @@ public final class GroundPlan {
   }
 
   /** A tree: its root and each block's children, NOBODY where there is none. */
-  private static final class Kin {
+  private static final class Kin extends Telling {
     final int[] left = new int[MOST_BLOCKS];
     final int[] right = new int[MOST_BLOCKS];
     private final int[] open = new int[2 * MOST_BLOCKS];
@@ -1150,7 +1152,12 @@ public final class GroundPlan {
           addBlock(blocks.width[token], blocks.height[token], bitOf(open, token), bitOf(turned, token));
         } else if (parts > 1) {
           parts--;
-          join(token, starts[parts - 1], starts[parts]);
+          int first = starts[parts - 1];
+          if (token == BESIDE) {
+            takeJoined(first, joinBeside(first, starts[parts]));
+          } else {
+            takeJoinedBackward(first, joinAbove(first, starts[parts]));
+          }
         }
       }
     }
@@ -1174,12 +1181,17 @@ public final class GroundPlan {
       }
     }
 
-    private void join(int token, int first, int second) {
-      int joined = token == BESIDE ? joinBeside(first, second) : joinAbove(first, second);
+    private void takeJoined(int first, int joined) {
       size = first;
       for (int k = 0; k < joined; k++) {
-        int from = token == BESIDE ? k : joined - 1 - k;
-        addShape(joinedWide[from], joinedHigh[from]);
+        addShape(joinedWide[k], joinedHigh[k]);
+      }
+    }
+
+    private void takeJoinedBackward(int first, int joined) {
+      size = first;
+      for (int k = joined - 1; k >= 0; k--) {
+        addShape(joinedWide[k], joinedHigh[k]);
       }
     }
 
@@ -1218,7 +1230,7 @@ public final class GroundPlan {
     }
 
     int leastArea() {
-      int area = Integer.MAX_VALUE;
+      int area = BOUNDLESS;
       for (int i = 0; i < size; i++) {
         area = Math.min(area, wide[i] * high[i]);
       }
@@ -1307,7 +1319,7 @@ public final class GroundPlan {
       size = Math.min(blocks.size, MOST_SEARCHED);
       turnable = blocks.changedByTurning();
       floor = blocks.area();
-      found.ground = Integer.MAX_VALUE;
+      found.ground = BOUNDLESS;
     }
 
     /** No ground is less than the blocks' own, so what has come down to that stays the first. */
@@ -1320,8 +1332,9 @@ public final class GroundPlan {
       orders.begin(size);
       for (long i = 0L; i < rows && !isDone(); i++) {
         for (long j = 0L; j < rows; j++) {
-          if (mayBeFirst()) {
-            tryPair();
+          if (mayBeFirst() && comesLower(orders)) {
+            found.a = pack(orders.one, 0, size);
+            found.b = pack(orders.two, 0, size);
           }
           nextOrder(orders.two);
         }
@@ -1341,21 +1354,25 @@ public final class GroundPlan {
           && corner <= orders.two[size - 1];
     }
 
-    private void tryPair() {
+    /** Whether some way to turn needs less ground than all before: the first least one is noted. */
+    private boolean comesLower(Telling telling) {
+      boolean lower = false;
       int turned = 0;
       for (int step = 0; step < 1 << MOST_SEARCHED; step++) {
         trial.take(blocks, turned);
-        orders.lay(trial);
-        if (trial.area() < found.ground) {
-          found.a = pack(orders.one, 0, size);
-          found.b = pack(orders.two, 0, size);
-          keepTrial();
+        telling.lay(trial);
+        int area = trial.area();
+        if (area < found.ground) {
+          found.ground = area;
+          found.turned = turned;
+          lower = true;
         }
         turned = nextTurned(turned);
         if (turned == 0) {
           break;
         }
       }
+      return lower;
     }
 
     private void searchTrees() {
@@ -1363,51 +1380,23 @@ public final class GroundPlan {
       orders.begin(size);
       for (long i = 0L; i < rows && !isDone(); i++) {
         for (int form = 0; form < 1 << 2 * size; form++) {
-          if (kin.grow(orders.one, size, form)) {
-            tryTree();
+          if (kin.grow(orders.one, size, form) && comesLower(kin)) {
+            found.root = kin.root;
+            found.a = pack(kin.left, 0, size);
+            found.b = pack(kin.right, 0, size);
           }
         }
         nextOrder(orders.one);
       }
     }
 
-    private void tryTree() {
-      int turned = 0;
-      for (int step = 0; step < 1 << MOST_SEARCHED; step++) {
-        trial.take(blocks, turned);
-        kin.lay(trial);
-        if (trial.area() < found.ground) {
-          found.root = kin.root;
-          found.a = pack(kin.left, 0, size);
-          found.b = pack(kin.right, 0, size);
-          keepTrial();
-        }
-        turned = nextTurned(turned);
-        if (turned == 0) {
-          break;
-        }
-      }
-    }
-
-    private void keepTrial() {
-      found.ground = trial.area();
-      found.turned = trial.turned;
-    }
-
+    /** The outlines tell the first row of least ground, and only for that one turns are tried. */
     private void searchCuts() {
       row.length = 2 * size - 1;
       extend(0, 0, 0);
       row.read(found.a, found.b, size);
-      int turned = 0;
-      for (int step = 0; step < 1 << MOST_SEARCHED; step++) {
-        trial.take(blocks, turned);
-        row.lay(trial);
-        if (trial.area() == found.ground) {
-          break;
-        }
-        turned = nextTurned(turned);
-      }
-      found.turned = turned;
+      found.ground = BOUNDLESS;
+      comesLower(row);
     }
 
     /** All normal rows that begin with the first tokens, as rows of tokens rise. */
@@ -1462,8 +1451,10 @@ public final class GroundPlan {
         }
         exchange(order, tail - 1, other);
       }
-      for (int i = tail, j = size - 1; i < j; i++, j--) {
-        exchange(order, i, j);
+      int last = size - 1;
+      for (int i = tail; i < last; i++) {
+        exchange(order, i, last);
+        last--;
       }
     }
   }

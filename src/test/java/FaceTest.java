@@ -114,7 +114,8 @@ public final class FaceTest {
     for (Class<?> one : withItsInside(GroundPlan.class)) {
       boolean outer = one == GroundPlan.class;
       kit.yes(one + " is static", outer || Modifier.isStatic(one.getModifiers()));
-      kit.no(one + " is public or protected", !outer && (one.getModifiers() & (Modifier.PUBLIC | Modifier.PROTECTED)) != 0);
+      int seen = one.getModifiers() & (Modifier.PUBLIC | Modifier.PROTECTED);
+      kit.no(one + " is public or protected", !outer && seen != 0);
       int fields = 0;
       for (Field field : one.getDeclaredFields()) {
         boolean isStatic = Modifier.isStatic(field.getModifiers());
