@@ -6,6 +6,7 @@ final class Kit {
   static final long THROWN = Long.MIN_VALUE + 7;
 
   private final String name;
+  private String held = "";
   private int wrong;
   private int asked;
 
@@ -18,12 +19,17 @@ final class Kit {
     long answer();
   }
 
+  /** What the answers from now on hold the class to; every complaint names it. */
+  void hold(String sentence) {
+    held = sentence + ": ";
+  }
+
   void due(String call, long want, long got) {
     asked++;
     if (got != want) {
       wrong++;
       if (wrong <= 50) {
-        System.out.println(name + ": " + call + " answered " + text(got) + ", due is " + text(want));
+        System.out.println(name + ": " + held + call + " answered " + text(got) + ", due is " + text(want));
       }
     }
   }
