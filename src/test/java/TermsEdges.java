@@ -40,6 +40,7 @@ final class TermsEdges {
     fromOne();
     fromTwo();
     fromTies();
+    fromWaiting();
     fromTurned();
   }
 
@@ -564,6 +565,18 @@ final class TermsEdges {
     row.put(0, 0, 1, false);
     row.put(1, 0, 2, false);
     fromDue(Kit.row(1, 0, 2), Kit.row(2, 0, 1), row);
+  }
+
+  /** 1 waits for 0 alone, 0 for 2 alone, which is not ahead of 1: past its lower or upper end. */
+  private void fromWaiting() {
+    for (int low = 0; low <= 1; low++) {
+      GroundPlan plan = Plans.of(1, 3, 1, 1, 1, 1);
+      plan.places();
+      plan.put(0, 1, 0, false);
+      plan.put(1, 2, 1 - low, false);
+      plan.put(2, 0, low, false);
+      fromDue(Kit.row(2, 0, 1), Kit.row(2, 0, 1), plan);
+    }
   }
 
   private void fromTurned() {
