@@ -21,6 +21,7 @@ final class SearchEdges {
     leastFirstCuts();
     leastFirstTree();
     leastBehind();
+    leastTies();
     leastTurned();
     leastSizes();
     leastSixty();
@@ -90,7 +91,7 @@ final class SearchEdges {
     edge.due("told(6)", 0, corner, p -> p.told(6));
   }
 
-  /** The first ways of telling do not do: block 1 under the others, a row, a tower. */
+  /** The first ways of telling do not do: 1 under the others, 1 beside them, 1 under 0, a row, a tower. */
   private void leastBehind() {
     edge.hold(23, "by the row of BLOCKS as they are laid");
     int[] under = {2, 3, 5, 1, 3, 3};
@@ -101,6 +102,10 @@ final class SearchEdges {
     leastDue(Plans.of(aside), 1, 15, Kit.row(0, 2, 1), Kit.row(2, 0, 1));
     leastDue(Plans.of(aside), 2, 15, Kit.row(0, 2, ABOVE, 1, BESIDE), -1);
     leastDue(Plans.of(aside), 3, 15, Kit.row(1), Kit.row(2));
+    int[] stacked = {2, 1, 2, 2, 1, 3, 4, 3};
+    leastDue(Plans.of(stacked), 1, 21, Kit.row(0, 1, 2, 3), Kit.row(1, 0, 2, 3));
+    leastDue(Plans.of(stacked), 2, 21, Kit.row(0, 1, ABOVE, 2, BESIDE, 3, BESIDE), -1);
+    leastDue(Plans.of(stacked), 3, 21, Kit.row(15, 2, 3), Kit.row(1));
     int[] row = {1, 9, 2, 9, 4, 9, 8, 9};
     leastDue(Plans.of(row), 1, 135, Kit.row(0, 1, 2, 3), Kit.row(0, 1, 2, 3));
     leastDue(Plans.of(row), 2, 135, Kit.row(0, 1, BESIDE, 2, BESIDE, 3, BESIDE), -1);
@@ -109,6 +114,19 @@ final class SearchEdges {
     leastDue(Plans.of(tower), 1, 135, Kit.row(0, 1, 2, 3), Kit.row(3, 2, 1, 0));
     leastDue(Plans.of(tower), 2, 135, Kit.row(0, 1, ABOVE, 2, ABOVE, 3, ABOVE), -1);
     leastDue(Plans.of(tower), 3, 135, -1, Kit.row(1, 2, 3));
+  }
+
+  /** Grounds that blocks do not fill: other ways that need as much come later. */
+  private void leastTies() {
+    edge.hold(23, "the LAYING becomes the first such one");
+    int[] loose = {3, 2, 2, 4};
+    leastDue(Plans.of(loose), 1, 18, Kit.row(0, 1), Kit.row(1, 0));
+    leastDue(Plans.of(loose), 2, 18, Kit.row(0, 1, ABOVE), -1);
+    leastDue(Plans.of(loose), 3, 18, -1, Kit.row(1));
+    int[] row = {2, 5, 3, 6, 4, 7};
+    leastDue(Plans.of(row), 1, 63, Kit.row(0, 1, 2), Kit.row(0, 1, 2));
+    leastDue(Plans.of(row), 2, 63, Kit.row(0, 1, BESIDE, 2, BESIDE), -1);
+    leastDue(Plans.of(row), 3, 63, Kit.row(1, 2), -1);
   }
 
   private void leastTurned() {
