@@ -24,7 +24,7 @@ public final class ModelTest {
   public static void main(String[] args) {
     int[] sizes = {1, 2, 3, 4, 4, 5, 6, 7, 8, 9, 12};
     int[] sides = {2, 3, 5, 9, 30, 200};
-    for (int seed = 0; seed < 660 && kit.wrong() == 0; seed++) {
+    for (int seed = 0; seed < 990 && kit.wrong() == 0; seed++) {
       new ModelTest(seed, sizes[seed % sizes.length], sides[seed / 11 % sides.length]).run();
     }
     for (int kind = 1; kind <= 3; kind++) {
@@ -80,7 +80,7 @@ public final class ModelTest {
   }
 
   private void change() {
-    switch (random.nextInt(22)) {
+    switch (random.nextInt(23)) {
       case 0 -> less();
       case 1, 2 -> block();
       case 3, 4 -> net();
@@ -95,6 +95,7 @@ public final class ModelTest {
       case 18 -> swap();
       case 19 -> least();
       case 20 -> of();
+      case 21 -> resize();
       default -> scatter();
     }
   }
@@ -105,6 +106,17 @@ public final class ModelTest {
       if (!rarely()) {
         block();
       }
+    }
+  }
+
+  /** So that a lesser plan comes behind a greater one: what is gone may leave no trace. */
+  private void resize() {
+    int wanted = random.nextInt(mostBlocks + 1);
+    while (model.size() > wanted && calls < CALLS) {
+      same("less", plan::less, model::less);
+    }
+    while (model.size() < wanted && calls < CALLS) {
+      block();
     }
   }
 
