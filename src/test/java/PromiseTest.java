@@ -9,6 +9,7 @@ public final class PromiseTest {
     newObject();
     block();
     less();
+    lessLeavesNoTrace();
     side();
     net();
     places();
@@ -172,6 +173,27 @@ public final class PromiseTest {
     kit.due("less to 0", 0, plan.less());
     kit.due("less of none", -1, plan.less());
     kit.no("places of none", plan.places());
+  }
+
+  /** Widths 1 to 12, all 2 high, then the first ones of them alone. */
+  private static void lessLeavesNoTrace() {
+    GroundPlan plan = many(12, false);
+    kit.yes("the last pair of twelve", plan.of(479001600L * 479001600L - 1));
+    kit.yes("a row of twelve is cut", plan.isCut());
+    for (int left = 11; left >= 1; left--) {
+      kit.due("less to " + left, left, plan.less());
+      noLaying(plan);
+      kit.yes("the first pair of " + left, plan.of(0));
+      kit.due("its rank", 0, () -> plan.rank());
+      kit.due("all stand in a row", left * (left + 1) / 2, () -> plan.about(1));
+      kit.due("which is as high as one", 2, () -> plan.about(2));
+      kit.yes("and is cut", plan.isCut());
+      lies(plan, 0, 0, 0, 1, 2);
+      lies(plan, left - 1, left * (left - 1) / 2, 0, left, 2);
+      kit.yes("a later pair", plan.of(plan.count(1, Math.min(left, 10)) - 1));
+    }
+    kit.due("the one that is left is ONE", Kit.row(0), () -> plan.told(0));
+    kit.due("and TWO", Kit.row(0), () -> plan.told(1));
   }
 
   private static void side() {
